@@ -171,6 +171,15 @@ final class QuestionTests {
         Check.same("beside it", county.link(1, 0, 0), -1);
     }
 
+    static void p15_linkIsOfTheDay999WhateverWasAskedAhead() {
+        Cornerdeed county = new Cornerdeed();
+        Steps.box(county, 0, 1, 0, 0, 1, 1, 999);
+        Check.same("title of an early day", county.title(0, 0, 0), 0);
+        Check.same("link", county.link(0, 0, 0), 0);
+        county.fence(2, 0, 0, 980);
+        Check.same("behind the day 999", county.link(0, 0, 1), -1);
+    }
+
     static void p16_area() {
         Cornerdeed county = new Cornerdeed();
         Steps.box(county, 0, 5, 0, 0, 8, 3, 10);
