@@ -75,7 +75,9 @@ public final class Cornerdeed {
         if (!canFile()) {
             throw new IllegalStateException("no draft of 3 courses or more, or there are 24 instruments");
         }
-        Deed deed = new Deed(register.size(), day, pending);
+        Ring ring = new Ring();
+        pending.drawInto(ring);
+        Deed deed = new Deed(register.size(), day, pending, ring);
         pending.close();
         return enter(deed);
     }
@@ -919,15 +921,14 @@ public final class Cornerdeed {
         final long cells;
         int missed;
 
-        Deed(int number, int day, Draft draft) {
+        Deed(int number, int day, Draft draft, Ring drawn) {
             super(number, day);
             grantor = draft.grantor;
             grantee = draft.grantee;
             errorX = draft.errorX();
             errorY = draft.errorY();
-            ring = new Ring();
-            draft.drawInto(ring);
-            cells = ring.cellsWithin();
+            ring = drawn;
+            cells = drawn.cellsWithin();
         }
 
         int kind() {
