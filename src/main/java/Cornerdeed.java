@@ -262,7 +262,7 @@ public final class Cornerdeed {
     }
 
     private static boolean isRow(int row) {
-        return isFrom(0, SIDE - 1, row);
+        return row >= 0 && row < SIDE;
     }
 
     private static boolean isCell(int x, int y) {

@@ -1,16 +1,16 @@
 /** Long runs of mixed calls, each answer beside that of PlainCounty; the numbers are drawn by a fixed rule. */
 final class RandomRunTests {
-    private static final int CALLS = 512;
     private static final int[] WRONG = {-1, Integer.MIN_VALUE, Integer.MAX_VALUE, 1000, 10, 9, 8, 6, -9, 24, 65};
+    private static final int[] EDGE_DAYS = {0, 1, 19, 20, 21, 39, 40, 49, 50, 51, 100, 978, 979, 980, 998, 999};
+    private static final int EDGES = -1;
 
+    private final County county = new County();
+    private final PlainCounty plain = new PlainCounty();
     private long seed;
-    private Cornerdeed county;
-    private PlainCounty plain;
+    private boolean isOfEdges;
 
     private RandomRunTests(long seed) {
         this.seed = seed;
-        county = new Cornerdeed();
-        plain = new PlainCounty();
     }
 
     static void runsOfAllCalls() {
@@ -25,35 +25,10 @@ final class RandomRunTests {
         }
     }
 
-    static long digestOfAnswers(Cornerdeed of) {
-        long d = 8803;
-        for (int what = 0; what <= 6; what++) {
-            d = d * 31 + of.county(what);
+    static void runsOfEdges() {
+        for (int run = 0; run < 120; run++) {
+            new RandomRunTests(run * 15485863L + 3).run(run, EDGES);
         }
-        for (int number = 0; number < of.county(0); number++) {
-            for (int what = 0; what <= 3; what++) {
-                d = d * 31 + of.ofInstrument(number, what);
-            }
-            for (int what = 0; what <= 7 && of.ofInstrument(number, 0) == 0; what++) {
-                d = d * 31 + of.ofDeed(number, what);
-            }
-            for (int k = 0; of.ofInstrument(number, 0) == 0 && k < of.ofDeed(number, 2); k++) {
-                d = (d * 31 + of.corner(number, k, true)) * 31 + of.corner(number, k, false);
-            }
-        }
-        for (int day = 50; day <= 999; day += 949) {
-            for (int row = 0; row < 8; row++) {
-                d = d * 31 + of.line(row, day);
-                for (int x = 0; x < 8; x++) {
-                    d = (d * 31 + of.owner(x, row, day)) * 31 + of.title(x, row, day);
-                }
-            }
-            for (int owner = 0; owner < 6; owner++) {
-                d = (d * 31 + of.area(owner, day)) * 31 + of.cut(owner, 4, day);
-            }
-            d = d * 31 + of.borders(day);
-        }
-        return d * 31 + (of.isSound() ? 1 : 0);
     }
 
     private int below(int bound) {
@@ -63,12 +38,19 @@ final class RandomRunTests {
 
     /** Mostly a number that is allowed, now and then one that is not. */
     private int from(int least, int most) {
+        if (isOfEdges && below(3) == 0) {
+            int[] edges = {least, most, least, most, least, most, least - 1, most + 1};
+            return edges[below(edges.length)];
+        }
         return below(60) == 0 ? WRONG[below(WRONG.length)] : least + below(most - least + 1);
     }
 
     private int day(int span) {
         if (below(40) == 0) {
             return WRONG[below(WRONG.length)];
+        }
+        if (isOfEdges) {
+            return EDGE_DAYS[below(EDGE_DAYS.length)];
         }
         if (span > 0) {
             return below(span);
@@ -78,7 +60,8 @@ final class RandomRunTests {
 
     private void run(int run, int span) {
         int telling = 4 + below(30);
-        for (int k = 0; k < CALLS; k++) {
+        isOfEdges = span == EDGES;
+        for (int k = 0; k < County.MAX_CALLS - 1; k++) {
             boolean isTelling = below(100) < telling;
             String call = isTelling ? tell(span) : ask(span);
             if (call != null) {
