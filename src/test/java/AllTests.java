@@ -6,10 +6,10 @@ import java.util.Comparator;
 
 /** Runs every static method without parameters of the test classes; each of them is one test. */
 public final class AllTests {
-    private static final Class<?>[] TESTS = {
+    static final Class<?>[] TESTS = {
         DeedTests.class, ShapeTests.class, RiverTests.class, FenceTests.class, OrderTests.class, FactTests.class,
         MapTests.class, ForecastTests.class, RangeTests.class, StateTests.class, PairTests.class,
-        RandomRunTests.class, LanguageTests.class,
+        RandomRunTests.class, LanguageTests.class, ReadmeTests.class,
     };
 
     public static void main(String[] args) {

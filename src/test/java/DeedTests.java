@@ -102,6 +102,17 @@ final class DeedTests {
         Check.corners(county, deed, 1, 2, 4, 2, 4, 6, 1, 6);
     }
 
+    /** The error -2 is shared by the lengths 4, 3, 4 and 5 alone: 2 * 11 / 16 is 1, with one of the old ones 0. */
+    static void p02_theLengthsOfTheDraftThatIsGoneDoNotCount() {
+        County county = Steps.drafted(0);
+        for (int k = 0; k < 10; k++) {
+            county.course(8, 8);
+        }
+        Steps.draft(county, 0, 1, 1, 1, 4, 0, 0, 3, -4, 0, 0, -5);
+        Check.same("file", county.file(0), 0);
+        Check.corners(county, 0, 1, 1, 5, 1, 5, 4, 1, 5);
+    }
+
     static void p02_theDraftThatIsGoneIsNoInstrument() {
         County county = Steps.drafted(4);
         county.draft(0, 2, 0, 0);

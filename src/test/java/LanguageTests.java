@@ -7,6 +7,8 @@ import java.nio.file.Files;
 import java.nio.file.Path;
 import java.util.Set;
 import java.util.TreeSet;
+import java.util.regex.Matcher;
+import java.util.regex.Pattern;
 
 /** The face of the class, and those rules of LANGUAGE.md that can be read off it. */
 final class LanguageTests {
@@ -126,17 +128,59 @@ final class LanguageTests {
     }
 
     static void theSourceKeepsToItsPartOfJava() throws IOException {
-        String source = Files.readString(Path.of("src/main/java/Cornerdeed.java"));
-        Check.same("all signs are plain", source.chars().allMatch(sign -> sign == '\n' || sign >= 32 && sign < 127),
+        Check.same("all signs are plain", source().chars().allMatch(sign -> sign == '\n' || sign >= 32 && sign < 127),
             true);
-        String code = source.replaceAll("(?s)/\\*.*?\\*/", "").replaceAll("//[^\n]*", "");
-        String[] forbidden = {"::", "finally", "synchronized", "assert ", "package ", "System.out", "System.err",
-            "System.nanoTime", "System.currentTimeMillis", "System.exit", "java.io", "java.time", "Random", "Thread",
-            "Throwable", "NullPointerException", "ArrayIndexOutOfBoundsException", "ClassCastException",
-            "NegativeArraySizeException", "ArrayStoreException", "hashCode", "Exact("};
+        String[] forbidden = {"::", "->", "\" +", "+ \"", "finally", "synchronized", "assert ", "package ",
+            "System.out", "System.err", "System.nanoTime", "System.currentTimeMillis", "System.exit", "java.io",
+            "java.time", "Random", "Thread", "Throwable", "NullPointerException", "ArrayIndexOutOfBoundsException",
+            "ClassCastException", "NegativeArraySizeException", "ArrayStoreException", "hashCode", "Exact(",
+            "getMessage", "NaN", "var "};
         for (String word : forbidden) {
-            Check.same("the source has " + word, code.contains(word), false);
+            Check.same("the source has " + word, code().contains(word), false);
         }
+    }
+
+    static void onlyWhatTheRulesListIsImported() throws IOException {
+        Set<String> listed = Set.of("java.util.ArrayList", "java.util.Arrays", "java.util.Iterator", "java.util.List",
+            "java.util.NoSuchElementException");
+        Matcher imports = Pattern.compile("(?m)^import (.*);$").matcher(code());
+        while (imports.find()) {
+            Check.same("import of " + imports.group(1), listed.contains(imports.group(1)), true);
+        }
+    }
+
+    static void eachThrowIsOfAListedExceptionWithAWrittenText() throws IOException {
+        String listed = "throw new (IllegalState|IllegalArgument|IndexOutOfBounds|Arithmetic|UnsupportedOperation"
+            + "|NoSuchElement|Runtime)Exception\\((\"[^\"]*\")?\\);";
+        String rest = code().replaceAll(listed, "");
+        Check.same("another throw", Pattern.compile("\\bthrow\\b").matcher(rest).find(), false);
+        Check.same("a catch of what is not thrown", Pattern.compile("\\bcatch\\b").matcher(rest).find(), false);
+    }
+
+    /** Some sixty lines are allowed. A method of the class begins at the column 4, one of a class inside it at 8. */
+    static void noMethodIsLong() throws IOException {
+        String[] lines = source().split("\n");
+        int methods = 0;
+        for (int k = 0; k < lines.length; k++) {
+            if (lines[k].matches("(    |        )(?!(if|for|while|switch|return|throw)\\b)\\w[^=;]*\\([^;]*")) {
+                String end = lines[k].replaceAll("\\S.*", "") + "}";
+                int last = k;
+                while (last < lines.length && !lines[last].equals(end)) {
+                    last++;
+                }
+                Check.same("the method at the line " + (k + 1) + " is short", last - k < 60, true);
+                methods++;
+            }
+        }
+        Check.same("all methods of the face were found", methods > FACE.length, true);
+    }
+
+    private static String source() throws IOException {
+        return Files.readString(Path.of("src/main/java/Cornerdeed.java"));
+    }
+
+    private static String code() throws IOException {
+        return source().replaceAll("(?s)/\\*.*?\\*/", "").replaceAll("//[^\n]*", "");
     }
 
     private static String told(Method method) {
